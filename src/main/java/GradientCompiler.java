@@ -32,6 +32,8 @@ public final class GradientCompiler {
     private final int[] directions = new int[ALL_PLACES];
     private final int[] stepped = new int[WIDTH];
 
+    // The operands are kept as given: one that a kind does not have may be any int,
+    // so a cell reckoned from it is never read.
     private final int[] kinds = new int[NODES];
     private final int[] xs = new int[NODES];
     private final int[] ys = new int[NODES];
