@@ -4,7 +4,7 @@
  */
 public final class ModelTest {
     private static final int RUNS = 400;
-    private static final int CALLS = 500;
+    private static final int CALLS = 511;
     private static final int[] EDGES = {Integer.MIN_VALUE, -4, -3, -2, -1, 3, 4, 11, 12, 13, 36, Integer.MAX_VALUE};
 
     private long sequence;
